@@ -1,16 +1,5 @@
 /** For each promise of the document: ordinary inputs, the edges it names, and wrong inputs in the order it tests them. */
-public final class PromiseTests {
-    private static final int BAD_ARG = RationalFormulas.BAD_ARG;
-    private static final int FULL = RationalFormulas.FULL;
-    private static final int TOO_FEW = RationalFormulas.TOO_FEW;
-    private static final int NONE = RationalFormulas.NONE;
-    private static final int ADD = 0;
-    private static final int SUBTRACT = 1;
-    private static final int MULTIPLY = 2;
-    private static final int DIVIDE = 3;
-
-    private static int wrong = 0;
-
+public final class PromiseTests extends Checks {
     public static void main(String[] args) {
         terms();
         promise1NewObject();
@@ -34,72 +23,7 @@ public final class PromiseTests {
         promise18Zeros();
         promise19Poles();
         questionsAfterDrop();
-        System.out.println(wrong == 0 ? "all promises hold" : wrong + " answers are not as due");
-        if (wrong != 0) {
-            System.exit(1);
-        }
-    }
-
-    private static void due(String what, int got, int want) {
-        if (got != want) {
-            wrong++;
-            System.out.println(what + ": answered " + got + ", due is " + want);
-        }
-    }
-
-    private static void due(String what, boolean got, boolean want) {
-        due(what, got ? 1 : 0, want ? 1 : 0);
-    }
-
-    /** Pushes a formula written behind its operands: x, numbers, + - * /, ^n, ' (derive). */
-    private static void push(RationalFormulas f, String words) {
-        for (String word : words.split(" ")) {
-            int answer = pushWord(f, word);
-            if (answer < 0) {
-                wrong++;
-                System.out.println("'" + word + "' in '" + words + "' was refused with " + answer);
-            }
-        }
-    }
-
-    private static int pushWord(RationalFormulas f, String word) {
-        switch (word) {
-            case "x": return f.variable();
-            case "+": return f.apply(ADD);
-            case "-": return f.apply(SUBTRACT);
-            case "*": return f.apply(MULTIPLY);
-            case "/": return f.apply(DIVIDE);
-            case "'": return f.derive();
-            default:
-                return word.charAt(0) == '^'
-                        ? f.power(Integer.parseInt(word.substring(1)))
-                        : f.constant(Integer.parseInt(word));
-        }
-    }
-
-    private static RationalFormulas formula(String words) {
-        RationalFormulas f = new RationalFormulas();
-        push(f, words);
-        return f;
-    }
-
-    /** Checks all the coefficients, the degrees and the height of the top; polynomials begin at x^0. */
-    private static void dueTop(String what, RationalFormulas f, int[] above, int[] below, int height) {
-        for (int k = 0; k <= 24; k++) {
-            due(what + ": above, x^" + k, f.coefficient(k, 0), k < above.length ? above[k] : 0);
-            due(what + ": below, x^" + k, f.coefficient(k, 1), k < below.length ? below[k] : 0);
-        }
-        due(what + ": degree above", f.degreeAbove(), above.length - 1);
-        due(what + ": degree below", f.degreeBelow(), below.length - 1);
-        due(what + ": height", f.height(), height);
-    }
-
-    private static void dueFormula(String words, int[] above, int[] below, int height) {
-        dueTop(words, formula(words), above, below, height);
-    }
-
-    private static int[] poly(int... coefficients) {
-        return coefficients;
+        finish();
     }
 
     private static void terms() {
