@@ -307,8 +307,9 @@ public final class TermsBoundaryTests extends Checks {
     /** The answer of the 512th call, after calls that come in pairs and leave 7, x and 1 / (x^2 - x) on the stack. */
     private static void dueAtLast(String call, String first, String second, int want) {
         RationalFormulas f = new RationalFormulas();
-        push(f, "7 x 1 x x 1 - * /");
-        int made = 8;
+        String words = "7 x 1 x x 1 - * /";
+        push(f, words);
+        int made = words.split(" ").length;
         while (made < CALLS - 3) {
             push(f, first + " " + second);
             made += 2;

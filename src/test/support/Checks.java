@@ -125,7 +125,7 @@ public class Checks {
         return "0" + " x *".repeat(height);
     }
 
-    /** Arguments on both sides of a range, the nearest and the farthest, and such as a narrower type would take for good. */
+    /** Arguments on both sides of a range: the nearest, the farthest, and such as look good when cut to fewer bits. */
     protected static int[] outside(int low, int high) {
         return new int[] {
             low - 1, high + 1, low - 2, high + 2, low - 101, high + 101, low - 256, low + 256, high + 256,
